@@ -23,6 +23,7 @@ public final class SoupByRank {
     private final Court kept = new Court();
     private boolean isKept;
     private final Evening evening = new Evening();
+    private final Best best = new Best();
     private final Text firstText = new Text(new int[] {2, 3, 50}, new int[] {1, 2, 3});
     private final Text[] texts = new Text[MOST_TEXTS];
     private int textsThere = 1;
@@ -204,17 +205,12 @@ public final class SoupByRank {
             return NO_ANSWER;
         }
         thought.takeFrom(court);
-        int best = 0;
-        int least = FAR_MORE;
+        best.begin(0, FAR_MORE);
         for (int heat = 0; heat <= MOST_HEAT; heat++) {
             thought.heat = heat;
-            int minds = serve(thought);
-            if (minds < least) {
-                least = minds;
-                best = heat;
-            }
+            best.weigh(heat, serve(thought));
         }
-        return what == 0 ? best : least;
+        return best.answer(what);
     }
 
     public int raise(int what) {
@@ -222,20 +218,15 @@ public final class SoupByRank {
             return NO_ANSWER;
         }
         thought.takeFrom(court);
-        int best = NONE;
-        int least = serve(court);
+        best.begin(NONE, serve(court));
         for (int p = 0; p < court.many; p++) {
             for (int q = p + 1; q < court.many; q++) {
                 thought.changeRanks(p, q);
-                int minds = serve(thought);
+                best.weigh(10 * p + q, serve(thought));
                 thought.changeRanks(p, q);
-                if (minds < least) {
-                    least = minds;
-                    best = 10 * p + q;
-                }
             }
         }
-        return what == 0 ? best : least;
+        return best.answer(what);
     }
 
     public int exile(int what) {
@@ -243,17 +234,12 @@ public final class SoupByRank {
             return NO_ANSWER;
         }
         thought.takeFrom(court);
-        int best = NONE;
-        int least = serve(court);
+        best.begin(NONE, serve(court));
         for (int p = 0; p < court.many; p++) {
             thought.away = p;
-            int minds = serve(thought);
-            if (minds < least) {
-                least = minds;
-                best = p;
-            }
+            best.weigh(p, serve(thought));
         }
-        return what == 0 ? best : least;
+        return best.answer(what);
     }
 
     public int seat(int p, int what) {
@@ -264,18 +250,13 @@ public final class SoupByRank {
             return FAR_UNTOLD;
         }
         thought.takeFrom(court);
-        int best = 0;
-        int least = FAR_MORE;
+        best.begin(0, FAR_MORE);
         for (int rank = 0; rank <= MOST_RANK; rank++) {
             thought.ranks[p] = rank;
             serve(thought);
-            int minds = evening.costs(p);
-            if (minds < least) {
-                least = minds;
-                best = rank;
-            }
+            best.weigh(rank, evening.costs(p));
         }
-        return what == 0 ? best : least;
+        return best.answer(what);
     }
 
     public int order(int what) {
@@ -286,20 +267,15 @@ public final class SoupByRank {
         for (int i = 0; i < turns.length; i++) {
             turns[i] = i;
         }
-        int best = 0;
-        int least = FAR_MORE;
+        best.begin(0, FAR_MORE);
         for (int tried = 0; tried < ALL_ORDERS; tried++) {
             rankByTurns();
-            int minds = serve(thought);
-            if (minds < least) {
-                least = minds;
-                best = digitsOfTurns();
-            }
+            best.weigh(digitsOfTurns(), serve(thought));
             if (!turnOn()) {
                 break;
             }
         }
-        return what == 0 ? best : least;
+        return best.answer(what);
     }
 
     public long mean(int part) {
@@ -332,7 +308,7 @@ public final class SoupByRank {
         int bits = 0;
         for (int v = 0; v <= most; v++) {
             row[p] = v;
-            if (isAsTold(s, thought)) {
+            if (firstOtherwise(sheets[s], thought) == NONE) {
                 bits |= 1 << v;
             }
         }
@@ -349,7 +325,7 @@ public final class SoupByRank {
         int least = NONE;
         for (int rank = MOST_RANK; rank >= 0; rank--) {
             thought.ranks[p] = rank;
-            if (isAsTold(s, thought)) {
+            if (firstOtherwise(sheets[s], thought) == NONE) {
                 many++;
                 least = rank;
             }
@@ -370,7 +346,7 @@ public final class SoupByRank {
         int least = NONE;
         for (int heat = MOST_HEAT; heat >= 0; heat--) {
             thought.heat = heat;
-            if (isAsTold(s, thought)) {
+            if (firstOtherwise(sheets[s], thought) == NONE) {
                 many++;
                 least = heat;
             }
@@ -387,7 +363,7 @@ public final class SoupByRank {
         int bits = 0;
         for (int t = 0; t < textsThere; t++) {
             thought.law = t;
-            if (isAsTold(s, thought)) {
+            if (firstOtherwise(sheets[s], thought) == NONE) {
                 bits |= 1 << t;
             }
         }
@@ -602,17 +578,13 @@ public final class SoupByRank {
     }
 
     private int firstOtherwise(Sheet told, Court at) {
-        serve(at);
+        evening.serve(at, lawOf(at));
         for (int p = 0; p < told.size && p < MOST_COURTIERS; p++) {
             if (told.cells[p] != evening.gets[p]) {
                 return p;
             }
         }
         return NONE;
-    }
-
-    private boolean isAsTold(int s, Court at) {
-        return firstOtherwise(sheets[s], at) == NONE;
     }
 
     private void rankByTurns() {
@@ -894,6 +866,27 @@ public final class SoupByRank {
         }
     }
 
+    /** Of all that is weighed, what has the least; of like ones the first. */
+    private static final class Best {
+        private int who;
+        private int least;
+
+        void begin(int one, int minds) {
+            who = one;
+            least = minds;
+        }
+
+        void weigh(int one, int minds) {
+            if (minds < least) {
+                begin(one, minds);
+            }
+        }
+
+        int answer(int what) {
+            return what == 0 ? who : least;
+        }
+    }
+
     /** A text as codes, what is joined ahead of what joins it: a number as itself, all others below 0. */
     private static final class Text {
         private static final int NAMES = 6, FIRST_NAME = -1, LAST_NAME = -6;
@@ -922,7 +915,7 @@ public final class SoupByRank {
                     }
                 } else if (code >= NOT) {
                     if (top >= 1) {
-                        stack[top - 1] = code == NOT ? truth(stack[top - 1] == 0) : -stack[top - 1];
+                        stack[top - 1] = code == NEGATE ? -stack[top - 1] : stack[top - 1] == 0 ? 1 : 0;
                     }
                 } else if (top >= 2) {
                     top--;
@@ -937,15 +930,12 @@ public final class SoupByRank {
                 case TIMES: return a * b;
                 case PLUS: return a + b;
                 case MINUS: return a - b;
-                case LESS: return truth(a < b);
-                case LIKE: return truth(a == b);
-                case AND: return truth(a != 0 && b != 0);
-                default: return truth(a != 0 || b != 0);
+                case LESS: return a < b ? 1 : 0;
+                case LIKE: return a == b ? 1 : 0;
+                case AND: return a != 0 && b != 0 ? 1 : 0;
+                case OR: return a != 0 || b != 0 ? 1 : 0;
+                default: return 0;
             }
-        }
-
-        private static int truth(boolean is) {
-            return is ? 1 : 0;
         }
     }
 
@@ -998,10 +988,16 @@ public final class SoupByRank {
             return fault;
         }
 
+        /** The text takes rows of its own along, as the next reading writes over these. */
         Text written() {
-            int[] row = new int[used];
-            System.arraycopy(codes, 0, row, 0, used);
-            return new Text(row, ends.clone());
+            return new Text(firstOf(codes, used), firstOf(ends, PARTS));
+        }
+
+        private static int[] firstOf(int[] row, int n) {
+            int size = Math.max(0, Math.min(n, row.length));
+            int[] own = new int[size];
+            System.arraycopy(row, 0, own, 0, size);
+            return own;
         }
 
         private void readEither(int open) {

@@ -81,6 +81,9 @@ public final class BestTest {
         x = Due.under(Due.court(50, 9, 0, 8), "cools 2;waits 3;likes 90-down*40;");
         DUE.is("exile(0) by down", x.exile(0), 0);
         DUE.is("exile(1) by down", x.exile(1), 0);
+        x = Due.court(0, 9, 0, 8);
+        DUE.is("exile(1) ahead of other thoughts", x.exile(1), 40);
+        DUE.is("all are there in other thoughts", x.cook(1), 6);
         DUE.is("exile(0) of nobody", new SoupByRank().exile(0), -1);
         DUE.is("exile(1) of nobody", new SoupByRank().exile(1), 0);
         DUE.is("exile(2)", x.exile(2), -100000);
@@ -97,6 +100,8 @@ public final class BestTest {
         DUE.is("seat(0, 0), to be the best by number", x.seat(0, 0), 5);
         DUE.is("seat(0, 1), to be the best by number", x.seat(0, 1), 0);
         DUE.is("RANK stays", x.told(1, 0), 5);
+        x.put(0, 0, 98);
+        DUE.is("seat(1, 0), to be the best by 99", x.seat(1, 0), 99);
         x = Due.under(Due.court(0, 9, 0, 9, 0, 9, 0, 9, 0, 5), "cools 0;waits 20;likes 50;");
         DUE.is("seat, one never begins", x.seat(4, 0), 0);
         DUE.is("seat, 10 if one never begins", x.seat(4, 1), 10);
@@ -156,6 +161,15 @@ public final class BestTest {
         x.brings(1, 0);
         DUE.is("mean(0) of nothing", x.mean(0), 0);
         DUE.is("mean(1) of nothing", x.mean(1), 1);
+        x = Due.court(0, 9, 0, 9, 0, 9, 0, 9, 0, 9, 0, 9);
+        DUE.is("mean(0) of six", x.mean(0), 75);
+        DUE.is("mean(1) of six", x.mean(1), 1);
+        x = Due.court(0, 9);
+        x.image();
+        x.courtier(0, 9);
+        DUE.is("mean(0) of two", x.mean(0), 87);
+        x.back();
+        DUE.is("mean(0) after back", x.mean(0), 90);
         DUE.is("mean(0) of nobody", new SoupByRank().mean(0), SoupByRank.NO);
         DUE.is("mean(1) of nobody", new SoupByRank().mean(1), SoupByRank.NO);
     }

@@ -166,6 +166,10 @@ public final class HostTest {
         DUE.is("place -1", x.taken(-1, 0), -12);
         DUE.is("kind 7", x.taken(12, 7), -2);
         DUE.is("kind -1", x.taken(12, -1), -2);
+        x = Due.court(0, 1, 0, 1, 0, 1, 0, 1, 0, 1, 10, 1);
+        x.put(5, 1, 88);
+        DUE.is("the last place", x.taken(11, 6), 88);
+        DUE.is("the last COURTIER", x.taken(5, 1), 5);
         DUE.is("the number 0", x.taken(0, 0), 0);
         DUE.is("the MOOD of 0", x.taken(6, 6), 500);
     }

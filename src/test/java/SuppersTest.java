@@ -23,6 +23,8 @@ public final class SuppersTest {
         suppers("EARL", Due.court(14, 9, 0, 1), 0, 90, 40, 80, 7, 76, 26, 26);
         suppers("EARL at 61", at(61, Due.court(14, 9, 0, 1)), 0, 61, 11, 22, 7, 47, -3, 3);
         suppers("EARL at 60", at(60, Due.court(14, 9, 0, 1)), 0, 60, 10, 20, 3, 54, 4, 4);
+        suppers("EARL, 1 too hot", at(51, Due.court(14, 9)), 0, 51, 1, 2);
+        suppers("EARL, just so", at(50, Due.court(14, 9)), 0, 50, 0, 0);
         suppers("EARL, cold", at(40, Due.court(14, 9)), 0, 40, -10, 10);
         suppers("CHAPLAIN", Due.court(24, 9, 0, 1), 0, 90, 44, 44, 3, 84, 34, 34);
         suppers("CHAPLAIN, cold", at(39, Due.court(24, 9)), 0, 39, -7, 3);
@@ -92,6 +94,11 @@ public final class SuppersTest {
         int[] nobody = {-1, -1, 0, 0, -1};
         for (int what = 0; what < 5; what++) {
             DUE.is("table(" + what + ") of nobody", x.table(what), nobody[what]);
+        }
+        x = Due.court(0, 40);
+        int[] one = {0, 0, 40, 0, 0};
+        for (int what = 0; what < 5; what++) {
+            DUE.is("table(" + what + ") of one", x.table(what), one[what]);
         }
         x = Due.court(0, 40, 14, 30, 0, 50);
         // 50: 90, minds 40; 40: 84, 34; 30: 78, 28 twice

@@ -90,6 +90,18 @@ public final class TextTest {
         fault("cools 2" + (char) 255 + REST, 7);
         fault("cools 2>1" + REST, 7);
         fault("`cools 2", 0);
+        fault("dools 2" + REST, 0);
+        fault("cools beat" + REST, 6);
+        fault("cools heatz" + REST, 6);
+        fault("cools heata" + REST, 6);
+        fault("cools 9" + REST + "likesa", 25);
+        fault("cools 1:" + REST, 7);
+        fault("cools 1/" + REST, 7);
+        x = new SoupByRank();
+        DUE.is("a tape", Due.text(x, "coolswaits 12345"), -100);
+        DUE.is("what stood on the tape ahead is gone", Due.text(x, "cools"), -105);
+        DUE.is("and so are its digits", Due.text(x, "cools    123"), -112);
+        DUE.is("and its blanks", Due.text(x, "cools "), -106);
         fault("{cools 2", 0);
     }
 
