@@ -17,7 +17,7 @@ public final class ModelTest {
         "told 0..5 4..8", "table 0..4", "sup", "run 0..5 0..20 0..2", "cook 0..1", "raise 0..1", "exile 0..1",
         "seat 0..5 0..1", "order 0..1", "mean 0..1", "judge 0..3", "kinds 0..3 0..5 0..1", "ranks 0..3 0..5 0..1",
         "heats 0..3 0..1", "laws 0..3", "film 0..3", "drawn 0..99999 0..1", "odds 0..99999 1..40 -50..400 0..1",
-        "image", "back", "sheet 0..3 -1..2 0..7", "sheet 0..3 0..2 0..40", "cell 0..3 0..6 -1..99",
+        "image", "back", "sheet 0..3 -1..2 0..7", "sheet 0..3 0..2 0..40", "cell 0..3 0..6 -1..99", "film 0..3",
         "cell 0..3 0..11 0..59", "copy 0..3 0..4 0..3 0..4 0..4", "courtBy 0..3 0..2 0..4 0..6", "taken 0..11 0..6"
     };
     /** These cost most: they are called less often. */
@@ -67,7 +67,8 @@ public final class ModelTest {
     private static String mild(int part) {
         String[][] all = {
             {"1", "2+(heat<50)", "heat*0+down", "3-minute*(minute<3)", "heat-heat+1", "(down=2)*5"},
-            {"7", "rank*(rank<9)", "3+down*4", "mood*(mood<20)", "more+2", "20-minute", "0", "heat<50 or 9*more"},
+            {"7", "rank*(rank<9)", "3+down*4", "mood*(mood<20)", "more+2", "20-minute", "0", "heat<50 or 9*more",
+                "13", "20", "8+rank"},
             {"50", "mood*(mood<99)", "rank", "heat-10", "more*11", "minute+30", "99", "down*15+20"}
         };
         return all[part][lot(all[part].length)];
@@ -144,7 +145,8 @@ public final class ModelTest {
 
     private boolean agreeOnCall() throws Exception {
         if (lot(12) == 0) {
-            return agreeOnText(text()) && agree("force", lot(6));
+            // where no text has room any more, only now and then
+            return (model.count(3) == 6 && lot(20) != 0 || agreeOnText(text())) && agree("force", lot(6));
         }
         String[] words = FACE[lot(FACE.length)].split(" ");
         if (DEAR.contains(words[0]) && lot(3) != 0 || words[0].equals("order") && lot(4) != 0) {
