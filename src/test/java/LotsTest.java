@@ -13,7 +13,7 @@ public final class LotsTest {
         x = Due.under(Due.court(0, 0, 0, 0, 0, 0, 0, 0, 0, 0, 0, 0), "cools 0;waits 0;likes rank;");
         DUE.is("all six ranks", x.drawn(0, 0), 19 + 4 + 4 + 53 + 49 + 7);
         DUE.is("the last of six", x.drawn(0, 1), 3);
-        // 100000 times 48271 modulo 2147483647 is 532132506
+        // 100000 times 48271 modulo 2147483647 is 532132706
         x = Due.under(Due.court(0, 0), "cools 0;waits 0;likes rank;");
         DUE.is("MINDS by 99999", x.drawn(99999, 0), 90 - 100000L * 48271 % 2147483647 % 100);
         DUE.is("SEED 100000", x.drawn(100000, 0), -100000);
