@@ -25,14 +25,27 @@ public final class LanguageTest {
         DUE.is("signs beyond 1 to 127", source.chars().filter(c -> c < 1 || c > 127).count(), 0);
         String code = source.replaceAll("(?s)/\\*.*?\\*/", " ").replaceAll("//[^\n]*", " ")
                 .replaceAll("\"[^\"\n]*\"", "\"\"");
-        for (String word : new String[] {"throw", "throws", "try", "catch", "synchronized", "assert", "package", "import",
-            "while", "Exception", "Exact", "MAX_VALUE", "MIN_VALUE", "equals", "hashCode", "toString", "volatile"}) {
+        for (String word : new String[] {"throw", "throws", "try", "catch", "synchronized", "assert", "package",
+            "import", "while", "Exception", "Exact", "MAX_VALUE", "MIN_VALUE", "equals", "hashCode", "toString",
+            "volatile"}) {
             DUE.is("'" + word + "' in the text", found(code, "\\b\\w*" + word + "\\b"), 0);
         }
         DUE.is("lambdas, references to methods", found(code, "->|::"), 0);
         DUE.is("static blocks", found(code, "static\\s*\\{"), 0);
         DUE.is("texts joined by +", found(code, "\"\\s*\\+|\\+\\s*\""), 0);
         DUE.is("loops without a bound", found(code, "for\\s*\\([^;]*;\\s*;"), 0);
+        methods(source);
+    }
+
+    /** A method begins with a line that ends in ") {" and ends with a } as far in as it began. */
+    private static void methods(String source) {
+        Matcher m = Pattern.compile("(?ms)^( {4}| {8})[^ \\n][^\\n]*\\) \\{\\n.*?\\n\\1\\}$").matcher(source);
+        long seen = 0;
+        for (; m.find(); seen++) {
+            long lines = m.group().lines().count();
+            DUE.is("lines beyond sixty of" + m.group().lines().findFirst().orElse(""), Math.max(0, lines - 60), 0);
+        }
+        DUE.is("methods beyond a hundred are seen", seen > 100 ? 1 : 0, 1);
     }
 
     private static long found(String code, String pattern) {
@@ -61,6 +74,7 @@ public final class LanguageTest {
         DUE.is("methods of the face", methods.equals(FACE) ? 1 : 0, 1);
         Set<String> constants = new TreeSet<>();
         for (Field f : soup.getDeclaredFields()) {
+            isSettled(f);
             if (!Modifier.isPrivate(f.getModifiers())) {
                 constants.add(f.getName());
             }
@@ -72,6 +86,14 @@ public final class LanguageTest {
         inside(soup);
     }
 
+    /** What is static never changes. */
+    private static void isSettled(Field f) {
+        boolean isStatic = Modifier.isStatic(f.getModifiers());
+        DUE.is(f + " is final", isStatic && !Modifier.isFinal(f.getModifiers()) ? 1 : 0, 0);
+        DUE.is(f + " is a number or a text", isStatic && !f.getType().isPrimitive() && f.getType() != String.class
+                ? 1 : 0, 0);
+    }
+
     private static void inside(Class<?> soup) {
         DUE.is("some twelve classes", soup.getDeclaredClasses().length < 12 ? 1 : 0, 1);
         for (Class<?> c : soup.getDeclaredClasses()) {
@@ -80,6 +102,7 @@ public final class LanguageTest {
             int fields = 0;
             for (Field f : c.getDeclaredFields()) {
                 fields += Modifier.isStatic(f.getModifiers()) ? 0 : 1;
+                isSettled(f);
             }
             DUE.is(c + " has some twenty fields", fields <= 20 ? 1 : 0, 1);
             for (Method m : c.getDeclaredMethods()) {

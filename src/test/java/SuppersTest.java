@@ -1,4 +1,4 @@
-/** The terms of a supper, and promises 11 to 13. At first the law cools by 2 a minute, waits 3, likes 50; HEAT is 90. */
+/** The terms of a supper, and promises 11 to 13. At first the law cools by 2, waits 3, likes 50; HEAT is 90. */
 public final class SuppersTest {
     private static final Due DUE = new Due("SuppersTest");
 
